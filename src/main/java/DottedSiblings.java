@@ -187,9 +187,6 @@ public final class DottedSiblings {
     /** The number of the set's i-th sibling; NONE when there is none such. */
     private int siblingAt(int key, long set, int i) {
         long greatest = greatestOf(key, set);
-        if (i < 0 || i >= Long.bitCount(greatest)) {
-            return NONE;
-        }
         int before = 0;
         for (int server = 0; server < servers; server++) {
             // Among the writes of one server, counters rise as numbers do.

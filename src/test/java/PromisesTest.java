@@ -283,6 +283,9 @@ public final class PromisesTest {
         due.is("the server stays", 1, x.siblings(0, 0));
         x.put(0, 0, 0, 7);
         due.is("a write after forgetting replaces none", 2, x.siblings(0, 0));
+        due.is("forget another key", true, x.forget(0, 1));
+        due.is("no context of another key", 0, x.context(0, 1, 0));
+        due.is("the other client still stays", 1, x.context(1, 0, 0));
         for (int wrong : new int[] {-1, 2, Integer.MIN_VALUE, Integer.MAX_VALUE}) {
             due.is("forget of no client", false, x.forget(wrong, 0));
         }
@@ -404,6 +407,10 @@ public final class PromisesTest {
         due.is("context stays when writing", 1, x.context(2, 0, 1));
         due.is("context of another client", 0, x.context(0, 0, 0));
         due.is("context of another key", 0, x.context(2, 1, 0));
+        x.put(0, 0, 1, 5);
+        x.get(0, 2, 1);
+        due.is("context of another key that was read", 1, x.context(2, 1, 0));
+        due.is("context of the first key stays", 2, x.context(2, 0, 0));
         due.is("context about no server", -1, x.context(2, 0, 2));
         for (int wrong : new int[] {-1, 3, Integer.MIN_VALUE, Integer.MAX_VALUE}) {
             due.is("context of no client", -1, x.context(wrong, 0, 0));
@@ -454,6 +461,9 @@ public final class PromisesTest {
         due.is("same of another key", true, x.same(0, 1, 1));
         x.sync(0, 1, 0);
         due.is("same after a sync", true, x.same(0, 1, 0));
+        x.put(1, 0, 2, 1);
+        due.is("same differs in another key", false, x.same(0, 1, 2));
+        due.is("same in the first key still", true, x.same(0, 1, 0));
         x.get(0, 0, 0);
         x.put(0, 0, 0, 2);
         due.is("same counts alone do not do", 1, x.siblings(1, 0));
