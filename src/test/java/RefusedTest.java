@@ -1,96 +1,155 @@
+import java.util.List;
+
 /** "A call that is refused changes nothing", and no call throws, whatever its arguments. */
 public final class RefusedTest {
-    private static final int SERVERS = 2;
-    private static final int CLIENTS = 2;
+    private static final int KEYS = 3;
+    private static final int CALLS_LEFT = 250;
     private static final int[] ODD = {Integer.MIN_VALUE, -64, -1, 0, 1, 2, 3, 4, 40, 64, Integer.MAX_VALUE};
 
     private static final Due due = new Due();
 
-    private RefusedTest() {
+    private final int servers;
+    private final int clients;
+    private final int writes;
+    private final List<String> before;
+
+    private RefusedTest(int servers, int clients, int writes) {
+        this.servers = servers;
+        this.clients = clients;
+        this.writes = writes;
+        before = new State(servers, clients, CALLS_LEFT, this::used).told();
     }
 
     public static void main(String[] args) {
-        refusedChangesNothing();
-        askingChangesNothing();
-        fullKeyChangesNothing();
+        int[][] sizes = {{1, 1}, {1, 2}, {2, 1}, {3, 2}, {4, 4}};
+        for (int[] size : sizes) {
+            for (int writes : new int[] {0, 5, 40}) {
+                RefusedTest test = new RefusedTest(size[0], size[1], writes);
+                test.questionsChangeNothing();
+                test.wrongArgumentsChangeNothing();
+                test.syncOfBothTheSameChangesNothing();
+                if (writes == 40) {
+                    test.putWhenThereAre40ChangesNothing();
+                }
+            }
+        }
         noCallThrows();
         due.end();
     }
 
-    private static DottedSiblings used() {
-        DottedSiblings x = new DottedSiblings(SERVERS, CLIENTS);
-        x.put(0, 0, 0, 1);
-        x.put(1, 1, 0, 2);
-        x.get(0, 0, 0);
-        x.put(1, 0, 0, 3);
-        x.put(0, 0, 2, 4);
-        x.get(0, 1, 2);
-        x.get(1, 1, 0);
-        x.put(0, 1, 2, 5);
+    /** Servers that know different writes and clients that read at different servers: 200 calls at most. */
+    private DottedSiblings used() {
+        DottedSiblings x = new DottedSiblings(servers, clients);
+        for (int key = 0; key < KEYS && writes > 0; key++) {
+            for (int write = 0; write < writes - 1; write++) {
+                int server = (write + key) % servers;
+                int client = (write / servers + key) % clients;
+                x.put(server, client, key, 100 * key + write);
+                if (write % 3 == 1) {
+                    x.get((server + 1) % servers, client, key);
+                }
+                if (write % 8 == 7 && servers > 1) {
+                    x.sync(server, (server + 1) % servers, key);
+                }
+            }
+            for (int client = 0; client < clients; client++) {
+                x.get((client + 2) % servers, client, key);
+            }
+            // The last write is one that no client has read.
+            x.put(servers - 1, 0, key, -1);
+        }
         return x;
     }
 
-    private static void unchanged(String call, DottedSiblings x) {
-        due.is("the state after " + call, State.of(used(), SERVERS, CLIENTS), State.of(x, SERVERS, CLIENTS));
+    private void unchangedBy(Kind kind, int... a) {
+        String call = "new(" + servers + ", " + clients + ") with " + writes + " writes a key: " + kind.text(a);
+        due.is(call, kind.refusal, kind.ask(used(), a));
+        List<String> after = new State(servers, clients, CALLS_LEFT - 1, () -> {
+            DottedSiblings x = used();
+            kind.ask(x, a);
+            return x;
+        }).told();
+        due.is("the number of answers after " + call, before.size(), after.size());
+        for (int i = 0; i < before.size() && i < after.size(); i++) {
+            due.is("after " + call, before.get(i), after.get(i));
+        }
     }
 
-    private static boolean valid(int server, int client, int key) {
-        return server >= 0 && server < SERVERS && client >= 0 && client < CLIENTS && key >= 0 && key < 3;
+    /** What the numbers of an argument's kind stop short of; 41 is never the number or place of a write. */
+    private int bound(Role role) {
+        return switch (role) {
+            case SERVER -> servers;
+            case CLIENT -> clients;
+            case KEY -> KEYS;
+            case WHAT -> 4;
+            case PLACE, WRITE -> 41;
+            case VALUE -> throw new IllegalArgumentException("every value is allowed");
+        };
     }
 
-    private static void refusedChangesNothing() {
-        for (int a : ODD) {
-            for (int b : ODD) {
-                for (int key : ODD) {
-                    refuse(a, b, key);
+    /** One argument after the other is wrong, while the others are first all the least and then all the last. */
+    private void wrongArgumentsChangeNothing() {
+        for (Kind kind : Kind.values()) {
+            for (int k = 0; k < kind.roles.length; k++) {
+                if (kind.roles[k] != Role.VALUE) {
+                    for (int wrong : new int[] {Integer.MIN_VALUE, -1, bound(kind.roles[k]), Integer.MAX_VALUE}) {
+                        unchangedBy(kind, withOneWrong(kind, k, wrong, false));
+                        unchangedBy(kind, withOneWrong(kind, k, wrong, true));
+                    }
                 }
             }
         }
     }
 
-    // One new object for each call: the state is asked within its 512 calls.
-    private static void refuse(int a, int b, int key) {
-        String arguments = "(" + a + ", " + b + ", " + key + ")";
-        if (!valid(a, b, key)) {
-            DottedSiblings x = used();
-            due.is("get" + arguments, -1, x.get(a, b, key));
-            due.is("put" + arguments, -1, x.put(a, b, key, 9));
-            unchanged("get and put" + arguments, x);
+    private int[] withOneWrong(Kind kind, int place, int wrong, boolean last) {
+        int[] a = new int[kind.roles.length];
+        for (int k = 0; k < a.length; k++) {
+            boolean few = kind.roles[k] == Role.PLACE || kind.roles[k] == Role.WRITE || kind.roles[k] == Role.VALUE;
+            a[k] = last && !few ? bound(kind.roles[k]) - 1 : 0;
         }
-        if (!valid(a, b, key) || a == b) {
-            DottedSiblings x = used();
-            due.is("sync" + arguments, false, x.sync(a, b, key));
-            unchanged("sync" + arguments, x);
-        }
-        if (!valid(0, b, key)) {
-            DottedSiblings x = used();
-            due.is("forget" + arguments, false, x.forget(b, key));
-            unchanged("forget" + arguments, x);
-        }
+        a[place] = wrong;
+        return a;
     }
 
-    private static void askingChangesNothing() {
-        DottedSiblings x = used();
-        State.of(x, SERVERS, CLIENTS);
-        unchanged("asking for all of it", x);
-    }
-
-    private static void fullKeyChangesNothing() {
-        DottedSiblings x = full();
-        due.is("put when full", -1, x.put(1, 1, 0, 99));
-        due.is("server 0 when full", State.ofServer(full(), 0, 0, SERVERS), State.ofServer(x, 0, 0, SERVERS));
-        due.is("server 1 when full", State.ofServer(full(), 1, 0, SERVERS), State.ofServer(x, 1, 0, SERVERS));
-        due.is("client 1 when full", State.ofClient(full(), 1, 0, SERVERS), State.ofClient(x, 1, 0, SERVERS));
-    }
-
-    private static DottedSiblings full() {
-        DottedSiblings x = new DottedSiblings(SERVERS, CLIENTS);
-        for (int write = 0; write < 40; write++) {
-            x.put(0, 0, 0, write);
-            if (write == 20) {
-                x.get(0, 1, 0);
+    private void syncOfBothTheSameChangesNothing() {
+        for (int server = 0; server < servers; server++) {
+            for (int key = 0; key < KEYS; key++) {
+                unchangedBy(Kind.SYNC, server, server, key);
             }
         }
+    }
+
+    private void putWhenThereAre40ChangesNothing() {
+        for (int server = 0; server < servers; server++) {
+            for (int client = 0; client < clients; client++) {
+                unchangedBy(Kind.PUT, server, client, 0, 99);
+                unchangedBy(Kind.PUT, server, client, 2, Integer.MIN_VALUE);
+            }
+        }
+    }
+
+    /** Questions that are not refused change nothing either, however many were asked before. */
+    private void questionsChangeNothing() {
+        List<String> inShortRows = new State(servers, clients, CALLS_LEFT / 2, this::used).told();
+        due.is("asked in shorter rows", before.toString(), inShortRows.toString());
+        List<String> afterOthers = new State(servers, clients, CALLS_LEFT - 64, this::usedAndAsked).told();
+        due.is("asked after other questions", before.toString(), afterOthers.toString());
+    }
+
+    private DottedSiblings usedAndAsked() {
+        DottedSiblings x = used();
+        for (int key = 0; key < KEYS; key++) {
+            for (int server = 0; server < servers; server++) {
+                x.siblings(server, key);
+                x.sibling(server, key, 0, 0);
+                x.known(server, key, 0);
+                x.same(server, 0, key);
+                x.weight(server, key);
+            }
+        }
+        x.read(0, 0, 0);
+        x.context(0, 0, 0);
+        x.sees(0, 0, 0);
         return x;
     }
 
@@ -112,17 +171,8 @@ public final class RefusedTest {
     }
 
     private static void callAll(DottedSiblings x, int a, int b, int c, int d) {
-        x.put(a, b, c, d);
-        x.get(a, b, c);
-        x.read(a, b, c);
-        x.sync(a, b, c);
-        x.siblings(a, b);
-        x.sibling(a, b, c, d);
-        x.known(a, b, c);
-        x.context(a, b, c);
-        x.sees(a, b, c);
-        x.same(a, b, c);
-        x.weight(a, b);
-        x.forget(a, b);
+        for (Kind kind : Kind.values()) {
+            kind.ask(x, a, b, c, d);
+        }
     }
 }

@@ -1,55 +1,99 @@
-/** Everything that the calls that change nothing tell of an object. */
+import java.util.ArrayList;
+import java.util.List;
+import java.util.function.Supplier;
+
+/** Everything that the calls tell of an object, told by twins of it, as one object answers 512 calls only. */
 final class State {
     private static final int KEYS = 3;
+    private static final int WRITES = 40;
 
-    private State() {
+    private final int servers;
+    private final int clients;
+    private final int callsLeft;
+    private final Supplier<DottedSiblings> maker;
+
+    private DottedSiblings asked;
+    private int callsMade;
+
+    /** The maker makes the same object each time, and leaves so many of its 512 calls. */
+    State(int servers, int clients, int callsLeft, Supplier<DottedSiblings> maker) {
+        this.servers = servers;
+        this.clients = clients;
+        this.callsLeft = callsLeft;
+        this.maker = maker;
     }
 
-    /** For small objects alone: an object is promised to answer 512 calls only. */
-    static String of(DottedSiblings x, int servers, int clients) {
-        StringBuilder out = new StringBuilder();
+    /** The answers, each with its call. */
+    List<String> told() {
+        asked = null;
+        List<String> told = new ArrayList<>();
         for (int key = 0; key < KEYS; key++) {
             for (int server = 0; server < servers; server++) {
-                out.append(ofServer(x, server, key, servers));
+                tellServer(told, server, key);
             }
             for (int client = 0; client < clients; client++) {
-                out.append(ofClient(x, client, key, servers));
+                tellClient(told, client, key);
             }
         }
-        return out.toString();
+        tellLaterCalls(told);
+        return told;
     }
 
-    static String ofServer(DottedSiblings x, int server, int key, int servers) {
-        StringBuilder out = new StringBuilder();
-        int count = x.siblings(server, key);
-        out.append("server ").append(server).append(" key ").append(key);
-        out.append(" weight ").append(x.weight(server, key)).append(" siblings ").append(count).append(':');
-        for (int i = 0; i < count; i++) {
+    private long tell(List<String> told, Kind kind, int... a) {
+        if (asked == null || callsMade == callsLeft) {
+            asked = maker.get();
+            callsMade = 0;
+        }
+        callsMade++;
+        long answer = kind.ask(asked, a);
+        told.add(kind.text(a) + " = " + answer);
+        return answer;
+    }
+
+    private void tellServer(List<String> told, int server, int key) {
+        tell(told, Kind.WEIGHT, server, key);
+        long count = tell(told, Kind.SIBLINGS, server, key);
+        for (int i = 0; i <= count; i++) {
             for (int what = 0; what < 4; what++) {
-                out.append(' ').append(x.sibling(server, key, i, what));
+                tell(told, Kind.SIBLING, server, key, i, what);
             }
-            out.append(';');
         }
         for (int of = 0; of < servers; of++) {
-            out.append(' ').append(x.known(server, key, of)).append(x.same(server, of, key) ? '=' : '~');
+            tell(told, Kind.KNOWN, server, key, of);
+            tell(told, Kind.SAME, server, of, key);
         }
-        return out.append('\n').toString();
     }
 
-    static String ofClient(DottedSiblings x, int client, int key, int servers) {
-        StringBuilder out = new StringBuilder();
-        out.append("client ").append(client).append(" key ").append(key).append(" read");
-        for (int i = 0; i == 0 || x.read(client, key, i - 1) != Due.NO_ANSWER; i++) {
-            out.append(' ').append(x.read(client, key, i));
+    private void tellClient(List<String> told, int client, int key) {
+        for (int i = 0; tell(told, Kind.READ, client, key, i) != Due.NO_ANSWER; i++) {
+            // The loop's own question is all there is to tell.
         }
-        out.append(" context");
         for (int of = 0; of < servers; of++) {
-            out.append(' ').append(x.context(client, key, of));
+            tell(told, Kind.CONTEXT, client, key, of);
         }
-        out.append(" sees ");
-        for (int write = 0; write < 8; write++) {
-            out.append(x.sees(client, key, write) ? '1' : '0');
+        for (int write = 0; write <= WRITES; write++) {
+            tell(told, Kind.SEES, client, key, write);
         }
-        return out.append('\n').toString();
+    }
+
+    /** What no question shows by itself: the numbers, counters and pasts that the next writes get. */
+    private void tellLaterCalls(List<String> told) {
+        for (int server = 0; server < servers; server++) {
+            asked = null;
+            for (int key = 0; key < KEYS; key++) {
+                for (int client = 0; client < clients; client++) {
+                    tell(told, Kind.PUT, server, client, key, 1000 + client);
+                }
+                tell(told, Kind.SYNC, server, (server + 1) % servers, key);
+                long count = tell(told, Kind.GET, server, 0, key);
+                for (int i = 0; i < count && i < 8; i++) {
+                    tell(told, Kind.SIBLING, server, key, (int) count - 1 - i, 2);
+                    tell(told, Kind.SIBLING, server, key, (int) count - 1 - i, 3);
+                    tell(told, Kind.READ, 0, key, i);
+                }
+                tell(told, Kind.FORGET, clients - 1, key);
+                tell(told, Kind.WEIGHT, server, key);
+            }
+        }
     }
 }
