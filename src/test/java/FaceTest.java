@@ -47,6 +47,9 @@ public final class FaceTest {
         }
         due.is("the face", new TreeSet<>(Set.of(FACE)).toString(), shown.toString());
         due.is("the class", "public final", Modifier.toString(DottedSiblings.class.getModifiers()));
+        due.is("what it extends", "class java.lang.Object", DottedSiblings.class.getSuperclass().toString());
+        due.is("what it implements", 0, DottedSiblings.class.getInterfaces().length);
+        due.is("NONE", -1, DottedSiblings.NONE);
         due.end();
     }
 }

@@ -27,6 +27,7 @@ public final class PromisesTest {
         siblingTellsFourThings();
         knownIsTheVector();
         contextIsTheVector();
+        vectorsCountReplacedWrites();
         seesLooksIntoTheContext();
         sameComparesSets();
         weightCountsNumbersAndSiblings();
@@ -423,6 +424,19 @@ public final class PromisesTest {
         due.is("context forgotten", 0, x.context(2, 0, 0));
     }
 
+    private static void vectorsCountReplacedWrites() {
+        DottedSiblings x = new DottedSiblings(2, 1);
+        x.put(0, 0, 0, 1);
+        x.put(0, 0, 0, 2);
+        x.get(0, 0, 0);
+        x.put(1, 0, 0, 3);
+        due.is("get of the one that replaced both", 1, x.get(1, 0, 0));
+        due.is("known of replaced ones", 2, x.known(1, 0, 0));
+        due.is("context of replaced ones", 2, x.context(0, 0, 0));
+        due.is("context of the one that replaced them", 1, x.context(0, 0, 1));
+        due.is("weight with the number of replaced ones", 3, x.weight(1, 0));
+    }
+
     // Promise 11
 
     private static void seesLooksIntoTheContext() {
@@ -466,8 +480,12 @@ public final class PromisesTest {
         due.is("same in the first key still", true, x.same(0, 1, 0));
         x.get(0, 0, 0);
         x.put(0, 0, 0, 2);
-        due.is("same counts alone do not do", 1, x.siblings(1, 0));
+        due.is("one sibling at the other server", 1, x.siblings(1, 0));
         due.is("as many siblings, not the same writes", false, x.same(0, 1, 0));
+        x.put(1, 1, 0, 3);
+        due.is("as many writes, not the same ones", false, x.same(0, 1, 0));
+        x.sync(1, 0, 0);
+        due.is("the same writes, made at both", true, x.same(0, 1, 0));
         for (int wrong : new int[] {-1, 3, Integer.MIN_VALUE, Integer.MAX_VALUE}) {
             due.is("same with no server", false, x.same(0, wrong, 0));
             due.is("same of no server", false, x.same(wrong, 0, 0));
